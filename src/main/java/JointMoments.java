@@ -851,11 +851,15 @@ public final class JointMoments {
                 return true;
             }
             byte c = tape.bytes[start];
-            if (isLetter(c)) {
-                return scanName();
+            if (c >= 'a' && c <= 'z') {
+                kind = NAME;
+                stop = behindRun('a', 'z');
+                return true;
             }
-            if (isFigure(c)) {
-                return scanNumber();
+            if (c >= '0' && c <= '9') {
+                kind = NUMBER;
+                stop = behindRun('0', '9');
+                return stop - start <= MOST_FIGURES ? reckon() : fail(NO_TOKEN, start);
             }
             if (c != '-' && c != ';') {
                 return fail(NO_TOKEN, start);
@@ -865,23 +869,20 @@ public final class JointMoments {
             return true;
         }
 
-        private boolean scanName() {
-            kind = NAME;
-            while (stop < tape.size && isLetter(tape.bytes[stop])) {
-                stop++;
+        /** The place behind the bytes from low to high that follow one another from the start on. */
+        private int behindRun(int low, int high) {
+            int place = start;
+            while (place < tape.size && tape.bytes[place] >= low && tape.bytes[place] <= high) {
+                place++;
             }
-            return true;
+            return place;
         }
 
-        private boolean scanNumber() {
-            kind = NUMBER;
+        /** The value of the figures from start to stop, of which there are few. */
+        private boolean reckon() {
             value = 0;
-            while (stop < tape.size && isFigure(tape.bytes[stop])) {
-                if (stop - start >= MOST_FIGURES) {
-                    return fail(NO_TOKEN, start);
-                }
-                value = 10 * value + tape.bytes[stop] - '0';
-                stop++;
+            for (int place = start; place < stop; place++) {
+                value = 10 * value + tape.bytes[place] - '0';
             }
             return true;
         }
@@ -896,14 +897,6 @@ public final class JointMoments {
                 }
             }
             return true;
-        }
-
-        private static boolean isLetter(byte c) {
-            return c >= 'a' && c <= 'z';
-        }
-
-        private static boolean isFigure(byte c) {
-            return c >= '0' && c <= '9';
         }
     }
 

@@ -154,6 +154,10 @@ public final class ChangeTest {
         Check.due("fall(1, 0)", x.fall(1, 0), JointMoments.BAD);
         Check.due("fall(1, 9)", x.fall(1, 9), JointMoments.BAD);
         goesOn("fall refused", x);
+        Check.due("fall(1, 1)", x.fall(1, 1), 1);
+        anew("fall of one", x);
+        x.lift(1);
+        x.step(0);
         Check.due("fall(1, 3)", x.fall(1, 3), 3);
         anew("fall", x);
         Check.due("rule(3)", x.rule(3), 4);

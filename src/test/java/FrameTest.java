@@ -33,6 +33,11 @@ public final class FrameTest {
         Check.due("rule(7)", x.rule(7), 2);
         x.begin();
         Check.due("rule(7) anew", x.rule(7), JointMoments.NONE);
+        JointMoments y = Check.told("turn -3;turn 4;turn 9;beam 0 1 1 10;");
+        Check.due("rule(5) from the first on", y.rule(5), 2);
+        Check.due("rule(6) from the first on", y.rule(6), 7);
+        Check.due("the greatest K", y.beam(0, 4), 120);
+        Check.due("it at its JOINT", y.joint(1, 2), 120);
     }
 
     private static void joint(JointMoments x) {

@@ -143,6 +143,9 @@ public final class MomentTest {
         Check.due("none is LOOSE by turns", x.next(1), JointMoments.NONE);
         Check.due("none is LOOSE", x.next(0), JointMoments.NONE);
         Check.due("rank(0) of none", x.rank(0), JointMoments.NONE);
+        x = Check.told("turn 5;turn 9;turn 5;hold 0;beam 0 3 12 1;beam 3 1 12 1;beam 3 2 12 1;");
+        x.step(0);
+        Check.due("just behind 0", x.next(1), 1);
         // The two turn each other: 1 is LOOSE again behind 0, and 0 behind 1.
         x = Check.told("turn 64;turn 0;beam 0 1 12 1;");
         Check.due("step(1) of nothing", x.step(1), 1);

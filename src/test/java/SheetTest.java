@@ -147,6 +147,7 @@ public final class SheetTest {
         Check.due("out(1, 0)", x.out(1, 0), 22);
         Check.due("out(0, 0) as it was", x.out(0, 0), 64);
         Check.due("out(2, 0) as it was", x.out(2, 0), 7);
+        Check.due("begun anew by one", x.rule(4), 0);
         x = laid(0, new int[40]);
         Check.due("20 of them", x.read(1, 0, 0, 20), 20);
         Check.due("COUPLE of 0", x.out(0, 0), 0);
@@ -218,10 +219,10 @@ public final class SheetTest {
     }
 
     private static void counts() {
-        JointMoments x = Check.told("turn 0;hold 0;turn 5;hold 1;beam 0 1 12 1;");
+        JointMoments x = Check.told("turn 0;hold 0;turn 5;hold 1;turn 0;beam 3 1 12 1;");
         Check.due("count(-1)", x.count(-1), JointMoments.BAD);
         Check.due("count(4)", x.count(4), JointMoments.BAD);
-        Check.due("count(3)", x.count(3), 2);
+        Check.due("count(3)", x.count(3), 3);
         x.keep(1);
         Check.due("count(0)", x.count(0), 1);
         x.keep(0);

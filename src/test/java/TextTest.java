@@ -100,6 +100,8 @@ public final class TextTest {
         refuses("turn\t1;", 4, 1);
         refuses("turn 1;\n", 7, 1);
         refuses("turn +1;", 5, 1);
+        refuses("turn -@1;", 6, 1);
+        refuses("turn -12345;", 6, 1);
         refuses("turn 1,", 6, 1);
         refuses("turn 12345;", 5, 1);
         refuses("turn 00001;", 5, 1);
@@ -124,6 +126,10 @@ public final class TextTest {
         refuses("-", 0, 2);
         refuses("turnx 1;", 0, 2);
         refuses("tur 1;", 0, 2);
+        refuses("xurn 1;", 0, 2);
+        refuses("bold 1;", 0, 2);
+        refuses("z", 0, 2);
+        refuses("turnz 1;", 0, 2);
         refuses("turnhold 1;", 0, 2);
         refuses("points 0 1 1;", 0, 2);
         refuses("hold 0; x", 8, 2);
