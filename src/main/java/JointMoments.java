@@ -541,7 +541,9 @@ public final class JointMoments {
             joints = other.joints;
             beams = other.beams;
             loads = other.loads;
-            System.arraycopy(other.held, 0, held, 0, MOST_JOINTS);
+            for (int j = 0; j < MOST_JOINTS; j++) {
+                held[j] = other.held[j];
+            }
             System.arraycopy(other.couples, 0, couples, 0, MOST_JOINTS);
             System.arraycopy(other.endJoints, 0, endJoints, 0, MOST_ENDS);
             System.arraycopy(other.lengths, 0, lengths, 0, MOST_BEAMS);

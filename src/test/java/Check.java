@@ -1,14 +1,20 @@
 /** What the tests of the project share: rows that are due, texts fed letter by letter. */
 final class Check {
     private static int wrong = 0;
+    /** The words of the document that the rows are about, ahead of each row that is wrong. */
+    private static String about = "";
 
     private Check() {
+    }
+
+    static void about(String words) {
+        about = words.isEmpty() ? "" : words + ": ";
     }
 
     static void due(String what, long got, long want) {
         if (got != want) {
             wrong++;
-            System.out.println(what + " answered " + got + ", due is " + want);
+            System.out.println(about + what + " answered " + got + ", due is " + want);
         }
     }
 

@@ -85,21 +85,24 @@ public final class FaceTest {
     private static void source(String path) throws Exception {
         List<String> lines = Files.readAllLines(Path.of(path));
         String bare = String.join("\n", lines).replaceAll("(?s)/\\*.*?\\*/", "").replaceAll("//[^\n]*", "")
-            .replaceAll("\"[^\"\n]*\"", "\"\"");
+            .replaceAll("\"[^\"\n]*\"", "\"\"").replaceAll("(case [^\n]*|default) ->", "");
         String[] forbidden = {
-            "\\bthrow\\b", "\\btry\\b", "\\bcatch\\b", "\\bsynchronized\\b", "\\bassert\\b", "->", "::", "\\bimport\\b",
-            "\\bpackage\\b", "\\w+Exact\\b", "static\\s*\\{", "\\bdouble\\b", "\\bfloat\\b", "\\bhashCode\\b",
-            "\\btoString\\b", "\\bvar\\b", "\"\"\\s*\\+", "\\+\\s*\"\"",
+            "\\bthrow\\b", "\\btry\\b", "\\bcatch\\b", "\\bsynchronized\\b", "\\bassert\\b", "->", "::",
+            "\\bpackage\\b", "\\w+Exact\\b", "static\\s*\\{", "\\bhashCode\\b", "\"\"\\s*\\+", "\\+\\s*\"\"",
         };
         for (String word : forbidden) {
             Check.that("no " + word, !Pattern.compile(word).matcher(bare).find());
         }
-        Matcher library = Pattern.compile("\\b(Math|System|Arrays|Integer|Long|String|List|ArrayList)\\.(\\w+)").matcher(bare);
-        while (library.find()) {
-            Check.that("library " + library.group(),
-                List.of("Math.abs", "Math.floorDiv", "System.arraycopy").contains(library.group()));
-        }
+        all(bare, "import ([^;]*);", "java\\.util\\.(Arrays|ArrayList|List|Iterator)|java\\.lang\\.Iterable");
+        all(bare, "\\b((?:System|Arrays|List)\\.\\w+)", "System.arraycopy|Arrays.(copyOf|copyOfRange|fill)|List.of");
         shortMethods(lines);
+    }
+
+    private static void all(String source, String found, String allowed) {
+        Matcher matcher = Pattern.compile(found).matcher(source);
+        while (matcher.find()) {
+            Check.that("'" + matcher.group(1) + "' as LANGUAGE.md has it", matcher.group(1).matches(allowed));
+        }
     }
 
     private static void shortMethods(List<String> lines) {

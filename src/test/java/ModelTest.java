@@ -1,13 +1,9 @@
-import java.lang.reflect.Method;
 import java.util.ArrayList;
-import java.util.HashMap;
 import java.util.List;
-import java.util.Map;
 import java.util.Random;
 
 /** All promises: long runs of calls, answered by the class and by the plain second writing alike. */
 public final class ModelTest {
-    private static final Map<String, Method> METHODS = new HashMap<>();
     private static final String[] ASKED = {
         "fault", "rule", "joint", "out", "at", "beam", "load", "moment", "share", "rank", "next", "torn", "count",
     };
@@ -21,21 +17,16 @@ public final class ModelTest {
     private static final int[] LENGTHS = {1, 2, 3, 4, 6, 12};
 
     private final Random random;
-    private JointMoments x = new JointMoments();
-    private Plain plain = new Plain();
+    private final Run run = new Run();
+    private final Plain plain = new Plain();
     private final List<String> rows = new ArrayList<>();
 
     private ModelTest(long seed) {
         random = new Random(seed);
     }
 
-    public static void main(String[] args) throws Exception {
-        for (Method m : JointMoments.class.getDeclaredMethods()) {
-            if (java.lang.reflect.Modifier.isPublic(m.getModifiers())) {
-                METHODS.put(m.getName(), m);
-            }
-        }
-        int runs = args.length > 1 ? Integer.parseInt(args[1]) : 2500;
+    public static void main(String[] args) {
+        int runs = args.length > 1 ? Integer.parseInt(args[1]) : 8000;
         for (int seed = 0; seed < runs; seed++) {
             if (!new ModelTest(seed).run(seed)) {
                 System.out.println("run of seed " + seed + " differs");
@@ -44,22 +35,23 @@ public final class ModelTest {
         }
     }
 
-    private boolean run(int seed) throws Exception {
+    /** Texts, changes and questions, till the 512 calls of an object are used up. */
+    private boolean run(int seed) {
         boolean good = true;
-        for (int part = 0; part < 3 && good; part++) {
+        while (good && run.calls() < Run.MOST_CALLS) {
             good = tell(random.nextInt(4) > 0 || seed % 3 == 0);
-            for (int n = 0; n < 60 && good; n++) {
+            for (int n = 0; n < 40 && good; n++) {
                 good = call(CHANGING[random.nextInt(CHANGING.length)]);
-                for (int i = 0; i < 4 && good; i++) {
+                for (int i = 0; i < 3 && good; i++) {
                     good = call(ASKED[random.nextInt(ASKED.length)]);
                 }
             }
-            good = good && all();
+            good = good && all(ASKED[random.nextInt(ASKED.length)]);
         }
         return good;
     }
 
-    private boolean tell(boolean whole) throws Exception {
+    private boolean tell(boolean whole) {
         String text = whole ? wholeText() : scrambled();
         boolean good = same("end", 0);
         for (int i = 0; i < text.length() && good; i++) {
@@ -156,38 +148,35 @@ public final class ModelTest {
         }
     }
 
-    private boolean call(String name) throws Exception {
-        int[] args = new int[METHODS.get(name).getParameterCount()];
+    private boolean call(String name) {
+        int[] args = new int[Run.parameters(name)];
         for (int i = 0; i < args.length; i++) {
             args[i] = argument(name, i);
         }
         return same(name, args);
     }
 
-    /** Every question with every argument that may tell anything. */
-    private boolean all() throws Exception {
+    /** A question with every argument that may tell anything. */
+    private boolean all(String name) {
         boolean good = true;
-        for (String name : ASKED) {
-            int parameters = METHODS.get(name).getParameterCount();
-            for (int a = -1; a <= (parameters == 0 ? -1 : 20) && good; a++) {
-                for (int b = -1; b <= (parameters < 2 ? -1 : 10) && good; b++) {
-                    good = parameters == 0 ? same(name) : parameters == 1 ? same(name, a) : same(name, a, b);
-                }
+        int parameters = Run.parameters(name);
+        for (int a = -1; a <= (parameters == 0 ? -1 : 20) && good; a++) {
+            for (int b = -1; b <= (parameters < 2 ? -1 : 6) && good; b++) {
+                good = parameters == 0 ? same(name) : parameters == 1 ? same(name, a) : same(name, a, b);
             }
         }
         return good;
     }
 
-    private boolean same(String name, int... args) throws Exception {
-        Object[] boxed = new Object[args.length];
-        for (int i = 0; i < args.length; i++) {
-            boxed[i] = args[i];
+    private boolean same(String name, int... args) {
+        if (run.calls() >= Run.MOST_CALLS) {
+            return true;
         }
-        int got = (Integer) METHODS.get(name).invoke(x, boxed);
+        int got = run.ask(name, args);
         int want = plain.call(name, args);
-        rows.add(name + java.util.Arrays.toString(args) + " " + got);
+        rows.add(Run.written(name, args) + " answered " + got);
         if (got != want) {
-            rows.subList(Math.max(0, rows.size() - 400), rows.size()).forEach(System.out::println);
+            rows.forEach(System.out::println);
             System.out.println("due is " + want);
         }
         return got == want;
