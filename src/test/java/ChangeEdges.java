@@ -139,6 +139,9 @@ final class ChangeEdges {
                 .row("load", 4, 0, 0, 7, NONE).due(BAD, "load", 5, 0).due(5, "beam", 0, 5).due(4, "lift", 4)
                 .due(3, "lift", 0).due(2, "lift", 0).due(1, "lift", 0).due(-7200, "moment", 0, 0).due(0, "lift", 0)
                 .due(0, "moment", 0, 0).due(0, "rule", 3);
+            Run.told("hold 0;hold 0;beam 0 1 12 1;beam 0 1 6 2;all 0 1;point 1 2 5;all 0 3;").due(2, "lift", 0)
+                .row("load", 0, 1, 1, 2, 5).row("load", 1, 0, 0, 3, NONE).due(1, "beam", 0, 5).due(1, "beam", 1, 5)
+                .due(-3600, "moment", 0, 0).due(1, "lift", 0).row("load", 0, 0, 0, 3, NONE).due(0, "moment", 2, 0);
         });
         Edge.promise(23, "BAD.", () ->
             Run.told(TEXT).due(BAD, "lift", -1).due(BAD, "lift", 1).due(BAD, "lift", MIN).due(BAD, "lift", MAX)

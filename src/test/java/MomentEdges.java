@@ -55,6 +55,10 @@ final class MomentEdges {
             for (int e = 0; e < 8; e++) {
                 ring.due(-4, "moment", e, 2);
             }
+            // Two BEAMS side by side: X of 1 is 75 / 7, of 0 it is -4 times that; at 1: 300 / 7 each, 600 / 7 on the third.
+            Run.told("turn 300;turn 0;hold 0;beam 0 1 12 1;beam 1 0 12 1;beam 1 2 12 2;").due(-150, "moment", 0, 2)
+                .due(-43, "moment", 1, 2).due(-43, "moment", 2, 2).due(-150, "moment", 3, 2)
+                .due(85, "moment", 4, 2).due(42, "moment", 5, 2);
             // The greatest that there are: K of 120 at four JOINTS, and eight LOADS where they press most.
             Run wide = Run.told("turn 9999;turn 9999;turn 9999;turn 9999;hold 0;"
                 + "beam 0 4 12 1;beam 0 1 1 10;beam 1 2 1 10;beam 2 3 1 10;" + "point 0 999 4;".repeat(8));
@@ -102,8 +106,8 @@ final class MomentEdges {
             Run.told("turn 3;hold 0;beam 0 1 12 1;").row("share", 0, -3, -1).due(1, "couple", 0, -3)
                 .row("share", 0, 3, 1).due(1, "couple", 0, 1).row("share", 0, -1, 0).due(1, "couple", 0, -1)
                 .row("share", 0, 1, 0).due(1, "couple", 0, 0).row("share", 0, 0, 0);
-            // The one that is left is shared, too: 3, 2 of 5; it counts in the half.
-            Run.told("turn-5;hold 0;beam 0 1 12 1;beam 1 0 12 1;").row("share", 0, 3, 1).row("share", 3, 2, 1);
+            // The one that is left is shared, too: 4, 3 of 7; it counts in the half.
+            Run.told("turn-7;hold 0;beam 0 1 12 1;beam 1 0 12 1;").row("share", 0, 4, 2).row("share", 3, 3, 1);
         });
         Edge.promise(13, "NOTHING: no such END, its JOINT is HELD, another what.", () -> {
             Run.told(PROPPED).row("share", 0, NOTHING, NOTHING).row("share", 3, NOTHING, NOTHING)

@@ -67,6 +67,11 @@ final class SheetEdges {
                 .due(1, "stiffen", 0, 4).due(0, "lift", 0).due(3, "back", 0).due(1, "beam", 0, 3).due(1, "rule", 3)
                 .moments(-1200, 1200, 0, 0).due(1, "stiffen", 0, 5).due(3, "back", 0).due(1, "beam", 0, 3)
                 .due(1, "count", 0);
+            // As many LOADS as in the IMAGE, but all of them others.
+            Run.told(TEXT).due(0, "keep", 0).due(0, "lift", 0).due(1, "put", 1, 77, 3).due(0, "keep", 1)
+                .due(0, "lift", 0).due(1, "put", 0, 5, 2).due(3, "back", 0).row("load", 0, 0, 0, 1, NONE)
+                .moments(-1200, 1200, 0, 0).due(3, "back", 1).row("load", 0, 1, 1, 77, 3).due(0, "moment", 0, 0)
+                .due(-1443, "moment", 2, 1);
             // An IMAGE of nothing is one, too.
             new Run().due(0, "keep", 1).due(0, "back", 1).due(0, "rule", 0);
         });

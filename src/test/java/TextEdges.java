@@ -267,7 +267,8 @@ final class TextEdges {
         });
         Edge.terms("2 a TOKEN that can not stand there (a NAME that begins no line; or the end: the length).", () -> {
             String[] names = {"t", "tur", "turm", "turns", "hol", "holt", "holds", "bea", "bean", "beams", "poin",
-                "poinr", "points", "al", "alk", "alls", "a", "z", "pin"};
+                "poinr", "points", "al", "alk", "alls", "a", "z", "pin", "burn", "cold", "team", "joint", "ill", "tarn", "held", "bram",
+                "paint", "axl"};
             for (String name : names) {
                 Run.fault(name + " 1;", 2, 0);
                 Run.fault("hold 0; " + name + " 1;", 2, 8);
