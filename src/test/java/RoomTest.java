@@ -10,7 +10,7 @@ import java.util.function.ToIntFunction;
 public final class RoomTest {
     private static final long MOST_OBJECTS = 600000;
     private static final long MOST_ELEMENTS = 7300000;
-    private static final int TIMES = 200;
+    private static final int TIMES = 190;
     private static final String TEXT =
         "hold 0;turn 50;turn -30;turn 3;turn 0;beam 0 1 4 2;beam 1 2 6 3;beam 2 3 3 1;beam 2 4 2 5;point 0 90 1;all 1 7;";
 
