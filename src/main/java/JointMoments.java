@@ -39,8 +39,8 @@ public final class JointMoments {
     private int readFault;
 
     public JointMoments() {
-        tape = new Tape();
-        teller = new Teller(tape);
+        teller = new Teller();
+        tape = teller.tape;
         balance = new Balance();
         equations = new Equations();
         frame = new Frame();
@@ -686,7 +686,7 @@ public final class JointMoments {
             NOT_THERE = 6;
         private static final int MOST_FIGURES = 4;
 
-        final Tape tape;
+        final Tape tape = new Tape();
         int lines;
         int fault;
         int faultPlace;
@@ -694,10 +694,6 @@ public final class JointMoments {
         private int start;
         private int stop;
         private int value;
-
-        Teller(Tape tape) {
-            this.tape = tape;
-        }
 
         boolean tell(Frame frame) {
             frame.clear();

@@ -75,6 +75,10 @@ public final class FaceTest {
                 fields += Modifier.isStatic(f.getModifiers()) ? 0 : 1;
             }
             Check.that("fields of " + c, fields <= 20);
+            // Rule 12: a constructor that is given nothing is handed nothing of an object that is being made.
+            for (Constructor<?> made : c.getDeclaredConstructors()) {
+                Check.due("parameters of " + made, made.getParameterCount(), 0);
+            }
             for (Method m : c.getDeclaredMethods()) {
                 Check.that("parameters of " + m, m.getParameterCount() <= 7);
                 Check.that(m + " bears no public name", !FACE.containsKey(m.getName()));
